@@ -39,7 +39,8 @@ public final class ComparisonTests {
         final Slow y;
         final Texts texts;
         final List<String> log = new ArrayList<>();
-        int calls;
+        /** Few runs get more FREE tuples than this, since the slow finder is so slow. */
+        int mostFree;
 
         Run(int seed) {
             this.seed = seed;
@@ -56,11 +57,13 @@ public final class ComparisonTests {
             for (int i = 0; i < relations; i++) {
                 relation();
             }
+            mostFree = random.nextInt(20) == 0 ? 12 : random.nextInt(8);
             int bounds = random.nextInt(30);
             for (int i = 0; i < bounds; i++) {
                 bound();
             }
-            for (int i = 0; i < 60 && wrong == 0; i++) {
+            int steps = mostFree > 8 ? 15 : 60;
+            for (int i = 0; i < steps && wrong == 0; i++) {
                 step();
             }
         }
@@ -106,7 +109,14 @@ public final class ComparisonTests {
             int r = random.nextInt(Math.max(1, y.names.size()));
             int top = r < y.names.size() ? y.size(y.arities.get(r)) : 1;
             int t = random.nextInt(15) == 0 ? random.nextInt(130) - 1 : random.nextInt(top);
-            int how = random.nextInt(25) == 0 ? 3 : random.nextInt(3);
+            int how = random.nextInt(25) == 0 ? 3 : random.nextInt(y.frees() < mostFree ? 2 : 3);
+            if (how == 1 && y.frees() >= mostFree && mostFree < 12) {
+                how = 2;
+            }
+            bound(r, t, how);
+        }
+
+        void bound(int r, int t, int how) {
             same("bound " + r + " " + t + " " + how, call(() -> x.bound(r, t, how)), call(() -> y.bound(r, t, how)));
         }
 
@@ -118,7 +128,13 @@ public final class ComparisonTests {
             }
             y.tape = text;
             switch (which) {
-                case 0: same("fact " + text, call(() -> x.fact()), call(() -> y.fact())); break;
+                case 0:
+                    same("fact " + text, call(() -> x.fact()), call(() -> y.fact()));
+                    same("count", call(() -> x.count()), call(() -> y.count()));
+                    if (y.count() == 0 && random.nextInt(3) != 0) {
+                        same("back", call(() -> x.back()), call(() -> y.back()));
+                    }
+                    break;
                 case 1: same("claim " + text, call(() -> x.claim()), call(() -> y.claim())); break;
                 case 2: same("value " + text, call(() -> x.value()), call(() -> y.value())); break;
                 default: same("holds " + text, call(() -> x.holds()), call(() -> y.holds())); break;
@@ -200,6 +216,8 @@ public final class ComparisonTests {
             bound.clear();
             if (random.nextInt(40) == 0) {
                 longOne(isFormula);
+            } else if (isFormula && random.nextInt(3) == 0) {
+                nested(1);
             } else if (isFormula) {
                 formula(random.nextInt(5) + 1);
             } else {
@@ -281,6 +299,46 @@ public final class ComparisonTests {
                     add(random.nextBoolean() ? "+" : "&", "univ");
                 }
             }
+        }
+
+        /** Quantifiers in quantifiers, where those further in use few of the names further out. */
+        void nested(int worlds) {
+            if (worlds * y.n > 130 || bound.size() > 5 || random.nextInt(8) == 0) {
+                formula(random.nextInt(2) + 1);
+                return;
+            }
+            int side = random.nextInt(4);
+            if (side == 0) {
+                comparison();
+                add(new String[] {"and", "or", "implies", "iff"}[random.nextInt(4)]);
+            }
+            boolean isSet = random.nextInt(4) == 0;
+            if (isSet) {
+                add(random.nextBoolean() ? "some" : "no", "{");
+            } else {
+                add(new String[] {"all", "some", "no", "lone", "one"}[random.nextInt(5)]);
+            }
+            String name = String.valueOf((char) ('u' + bound.size()));
+            add(name, ":");
+            expression(random.nextInt(3) == 0 ? 1 : 0, 1);
+            add("|");
+            bound.add(name);
+            nested(worlds * y.n);
+            bound.remove(bound.size() - 1);
+            if (isSet) {
+                add("}");
+            }
+            if (side == 1) {
+                add("and");
+                comparison();
+            }
+        }
+
+        void comparison() {
+            int arity = random.nextInt(2) + 1;
+            expression(1, arity);
+            add(random.nextBoolean() ? "in" : "=");
+            expression(1, arity);
         }
 
         void repeat(String token, int times) {

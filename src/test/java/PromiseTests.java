@@ -23,6 +23,7 @@ public final class PromiseTests {
         check();
         has();
         count();
+        countNested();
         unlike();
         fair();
         core();
@@ -431,6 +432,46 @@ public final class PromiseTests {
         }
     }
 
+    /** Parts that use few of the names around them are not worked out anew each time. */
+    private static void countNested() {
+        part = "promise 13, nested";
+        RelationFinder x = new RelationFinder(3);
+        x.relation(name("p"), 1);
+        x.relation(name("q"), 1);
+        boundAll(x, 0, 0, 3, 1);
+        boundAll(x, 1, 0, 3, 1);
+        fact(x, "all a : univ | all b : p | some c : q | c = b");
+        due("p in q", x.count(), 27);
+        x.back();
+        fact(x, "all a : p | all b : univ | some c : q | a = c");
+        due("p in q", x.count(), 27);
+        x.back();
+        fact(x, "all a : p | all b : q | all c : univ | all d : univ | some e : a + b | c = d implies e = b");
+        due("all", x.count(), 64);
+        x.back();
+        fact(x, "all a : univ | some b : p | b in {c : q | c = c}");
+        due("p meets q", x.count(), 64 - 27);
+        x.back();
+        fact(x, "all a : p | some b : univ | some {c : q | c = a}");
+        due("p in q", x.count(), 27);
+        x.back();
+        fact(x, "some a : univ | some b : univ | no {c : univ | c in a + b} - p and some c : q | no d : p | c = d");
+        due("some p, some of q that p has not", x.count(), 30);
+        RelationFinder y = new RelationFinder(5);
+        y.relation(name("p"), 1);
+        boundAll(y, 0, 0, 5, 1);
+        String deep = "";
+        for (char c = 'a'; c < 'p'; c++) {
+            deep += "all " + c + ":univ|";
+        }
+        fact(y, deep + "some x:p|x=o");
+        due("all of them", y.count(), 1);
+        fact(y, deep.replace("all", "no") + "false");
+        due("15 times no, and false", y.count(), 1);
+        fact(y, "no z : univ | " + deep.replace("all", "no") + "false");
+        due("16 times no, and false", y.count(), 0);
+    }
+
     private static void unlike() {
         part = "promise 14";
         RelationFinder x = new RelationFinder(4);
@@ -600,6 +641,9 @@ public final class PromiseTests {
         dueTuples(x, "r -> p", 3, "000010000000000010000000000");
         dueTuples(x, "r ++ s", 2, "010100001");
         dueTuples(x, "s ++ r", 2, "010001001");
+        dueTuples(x, "iden ++ r", 2, "010001001");
+        dueTuples(x, "(univ -> univ) ++ ~r", 2, "111100010");
+        dueTuples(x, "(univ -> univ) ++ (p -> p)", 2, "111010111");
         dueTuples(x, "p <: r", 2, "000001000");
         dueTuples(x, "r :> p", 2, "010000000");
         dueTuples(x, "p <: p", 1, "010");

@@ -92,7 +92,7 @@ public final class TextTests {
         refused(1, "true`E");
         refused(1, "`abcdefg = p");
         refused(1, "`impliess");
-        refused(1, "true `implie_".replace("_", "ss"));
+        refused(1, "true `impliesx true");
         refused(1, "`trueimplies");
         refused(1, "`" + times("a", 600));
         refused(1, "true or `xxxxxxxxfalse");
@@ -106,13 +106,13 @@ public final class TextTests {
         taken("p in p&p");
         taken("r++r=r");
         taken("p<:r=r:>p");
-        refused(3, "p < `: r = r".replace("`", "").replace("<", "`<"));
+        refused(3, "p `< : r = r");
         refused(3, "r + `+ r = r");
         refused(3, "p - `> p = r");
         taken("all x:p|x in x");
         refused(3, "all x `:> p | true");
         refused(1, "`_");
-        refused(1, "p ` \" = p".replace("` \"", "`\""));
+        refused(1, "p `\" = p");
     }
 
     private static void ends() {
@@ -174,7 +174,7 @@ public final class TextTests {
         refused(3, "some `[");
         refused(3, "some `not");
         refused(3, "some `some p");
-        refused(3, "all `p".replace("`p", "`3"));
+        refused(3, "all `3");
         refused(3, "all `univ : p | true");
         refused(3, "all `all");
         refused(3, "all x `p : p | true");
@@ -187,7 +187,7 @@ public final class TextTests {
         refused(3, "# p = `p");
         refused(3, "# p < `# p");
         refused(3, "# p = `(1)");
-        refused(3, "{`p".replace("`p", "`(p"));
+        refused(3, "{`(p");
         refused(3, "{ x `| true } = p");
         refused(3, "{ x : p | true `) = p");
         refused(3, "{ x : p | true `] = p");
@@ -210,6 +210,13 @@ public final class TextTests {
         refused(4, "some `x $");
         refused(4, "some `x :> p");
         refused(4, "some `x");
+        refused(2, "some x:`");
+        refused(4, "some `x:> p");
+        refused(2, "some x:`");
+        refused(4, "some `abcdef :> p");
+        taken("some abcdef : p | abcdef = p");
+        refused(1, "some `abcdefg : p | true");
+        refused(3, "some `: p | true");
         taken("all x : p | x = x");
         taken("all p : p | p = p");
         taken("all x : p | all x : x | x = x");
@@ -285,8 +292,8 @@ public final class TextTests {
         refused(5, "all x : p `. p true");
         refused(3, "all x : (r `true");
         refused(5, "some p `. p and true");
-        refused(3, "all x : (r `true".replace("r", "p"));
-        refused(4, "p . p + `foo".replace("p . p", "p"));
+        refused(3, "all x : (p `true");
+        refused(4, "p + `foo");
         refused(5, "p `. p + foo");
         refused(4, "p . `foo = r");
         refused(5, "p = p -> p -> p `-> p and");
