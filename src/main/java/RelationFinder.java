@@ -342,9 +342,10 @@ public final class RelationFinder {
         }
         workInPresent();
         workedArity = machine.arities[0];
+        int size = world.sizeOf(workedArity);
         int total = 0;
         for (int i = 0; i < MAX_TUPLES; i++) {
-            worked[i] = i < world.sizeOf(workedArity) && isThere(machine.cells[i]);
+            worked[i] = i < size && isThere(machine.cells[i]);
             total += worked[i] ? 1 : 0;
         }
         return total;
@@ -1235,7 +1236,8 @@ public final class RelationFinder {
 
         private void recall(int place, int arity) {
             int base = height * MAX_TUPLES;
-            for (int i = 0; i < world.sizeOf(arity); i++) {
+            int size = world.sizeOf(arity);
+            for (int i = 0; i < size; i++) {
                 cells[base + i] = memoWords[place * MAX_ATOMS + i];
             }
             arities[height] = arity;
@@ -1244,7 +1246,8 @@ public final class RelationFinder {
 
         private void remember(int place, int arity, long care) {
             int base = (height - 1) * MAX_TUPLES;
-            for (int i = 0; i < world.sizeOf(arity); i++) {
+            int size = world.sizeOf(arity);
+            for (int i = 0; i < size; i++) {
                 int at = place * MAX_ATOMS + i;
                 memoWords[at] = memoWords[at] & ~care | cells[base + i] & care;
             }
@@ -1333,8 +1336,10 @@ public final class RelationFinder {
         private void pushConstant(int op, int atom) {
             int arity = op == TRUE || op == FALSE ? 0 : op == IDEN ? 2 : 1;
             int base = height * MAX_TUPLES;
-            for (int i = 0; i < world.sizeOf(arity); i++) {
-                cells[base + i] = op == UNIV || op == TRUE ? -1L : 0L;
+            int size = world.sizeOf(arity);
+            long word = op == UNIV || op == TRUE ? -1L : 0L;
+            for (int i = 0; i < size; i++) {
+                cells[base + i] = word;
             }
             if (op == VARIABLE) {
                 cells[base + atom] = -1L;
@@ -1349,10 +1354,11 @@ public final class RelationFinder {
         private void pushRelation(int relation) {
             int base = height * MAX_TUPLES;
             int from = relation * MAX_TUPLES;
-            arities[height] = world.arities[relation];
-            for (int i = 0; i < world.sizeOf(arities[height]); i++) {
+            int size = world.sizeOf(world.arities[relation]);
+            for (int i = 0; i < size; i++) {
                 cells[base + i] = world.words[from + i];
             }
+            arities[height] = world.arities[relation];
             height++;
         }
 
@@ -1367,9 +1373,10 @@ public final class RelationFinder {
                 return;
             }
             int base = (height - 1) * MAX_TUPLES;
+            int size = world.sizeOf(arities[height - 1]);
             long once = 0;
             long twice = 0;
-            for (int i = 0; i < world.sizeOf(arities[height - 1]); i++) {
+            for (int i = 0; i < size; i++) {
                 twice |= once & cells[base + i];
                 once |= cells[base + i];
             }
@@ -1383,8 +1390,9 @@ public final class RelationFinder {
                 return;
             }
             int base = (height - 1) * MAX_TUPLES;
+            int size = world.sizeOf(arities[height - 1]);
             Arrays.fill(planes, 0L);
-            for (int i = 0; i < world.sizeOf(arities[height - 1]); i++) {
+            for (int i = 0; i < size; i++) {
                 long carry = cells[base + i];
                 for (int p = 0; p < PLANES && carry != 0; p++) {
                     long both = planes[p] & carry;
@@ -1464,7 +1472,8 @@ public final class RelationFinder {
                 arities[height - 1] = right;
             }
             int base = (height - 1) * MAX_TUPLES;
-            for (int i = 0; i < world.sizeOf(arities[height - 1]); i++) {
+            int size = world.sizeOf(arities[height - 1]);
+            for (int i = 0; i < size; i++) {
                 cells[base + i] = scratch[i];
             }
         }
@@ -1473,14 +1482,15 @@ public final class RelationFinder {
             int n = world.atoms;
             int leftBase = (height - 1) * MAX_TUPLES;
             int rightBase = height * MAX_TUPLES;
+            int fronts = world.sizeOf(left - 1);
             int backs = world.sizeOf(right - 1);
-            for (int i = 0; i < world.sizeOf(left - 1); i++) {
-                for (int j = 0; j < backs; j++) {
-                    long word = 0;
-                    for (int k = 0; k < n; k++) {
-                        word |= cells[leftBase + i * n + k] & cells[rightBase + k * backs + j];
+            for (int i = 0; i < fronts; i++) {
+                Arrays.fill(scratch, i * backs, (i + 1) * backs, 0L);
+                for (int k = 0; k < n; k++) {
+                    long word = cells[leftBase + i * n + k];
+                    for (int j = 0; j < backs && word != 0; j++) {
+                        scratch[i * backs + j] |= word & cells[rightBase + k * backs + j];
                     }
-                    scratch[i * backs + j] = word;
                 }
             }
         }
@@ -1488,8 +1498,9 @@ public final class RelationFinder {
         private void multiply(int left, int right) {
             int leftBase = (height - 1) * MAX_TUPLES;
             int rightBase = height * MAX_TUPLES;
+            int fronts = world.sizeOf(left);
             int backs = world.sizeOf(right);
-            for (int i = 0; i < world.sizeOf(left); i++) {
+            for (int i = 0; i < fronts; i++) {
                 for (int j = 0; j < backs; j++) {
                     scratch[i * backs + j] = cells[leftBase + i] & cells[rightBase + j];
                 }
@@ -1522,9 +1533,11 @@ public final class RelationFinder {
             if (op == OVERRIDE) {
                 dropBegun(left, right);
             }
-            for (int i = 0; i < world.sizeOf(arities[height - 1]); i++) {
-                int other = op == LASTS ? i % Math.max(1, world.atoms) : i;
-                cells[left + i] = joined(op, cells[left + i], cells[right + other]);
+            int size = world.sizeOf(arities[height - 1]);
+            // Of :> the second operand has a word for each last atom alone.
+            int around = op == LASTS ? world.atoms : size;
+            for (int i = 0, j = 0; i < size; i++, j = j + 1 < around ? j + 1 : 0) {
+                cells[left + i] = joined(op, cells[left + i], cells[right + j]);
             }
         }
 
@@ -1539,8 +1552,9 @@ public final class RelationFinder {
         }
 
         private void compare(int op, int left, int right) {
+            int size = world.sizeOf(arities[height - 1]);
             long differ = 0;
-            for (int i = 0; i < world.sizeOf(arities[height - 1]); i++) {
+            for (int i = 0; i < size; i++) {
                 differ |= cells[left + i] & ~cells[right + i];
                 if (op == EQUAL) {
                     differ |= cells[right + i] & ~cells[left + i];
