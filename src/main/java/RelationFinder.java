@@ -450,6 +450,11 @@ public final class RelationFinder {
         return (word >>> present % BLOCK & 1) != 0;
     }
 
+    /** Whether what is before it may tell all, so that what is behind it needn't be asked. */
+    private static boolean isConnective(int kind) {
+        return kind == AND || kind == OR || kind == IMPLIES;
+    }
+
     private static boolean isLetter(int b) {
         return b >= 'a' && b <= 'z';
     }
@@ -710,7 +715,8 @@ public final class RelationFinder {
 
     /**
      * A text as instructions, operands before their operator; but BIND comes first, then its E up to
-     * the middle, then its F up to the end.
+     * the middle, then its F up to the end; and and, or, implies have their second F behind them up
+     * to the end, since it may be passed over.
      */
     private static final class Code {
         static final int MAX_MEMOS = 40;
@@ -956,6 +962,7 @@ public final class RelationFinder {
             openParts[opens] = PLAIN;
             openPlaces[opens] = tape.place;
             openLefts[opens] = operand;
+            openStarts[opens] = isConnective(kind) ? code.add(kind, 0, 0) : NONE;
             opens++;
             awaited = AWAITS_OPERAND;
             return true;
@@ -1106,16 +1113,22 @@ public final class RelationFinder {
             if (openParts[top] == BODY) {
                 code.endBinder(openStarts[top], top, bodiesBelow(top));
                 operand = openKinds[top] == CURLY ? 1 : 0;
+            } else if (isConnective(openKinds[top])) {
+                code.ends[openStarts[top]] = code.length;
             } else {
-                int arity = fitting(openKinds[top], openLefts[top], operand);
-                if (arity == MISFIT) {
-                    refuse(WRONG_ARITY, openPlaces[top]);
-                    return;
-                }
+                applyTop(top);
+            }
+            opens--;
+        }
+
+        private void applyTop(int top) {
+            int arity = fitting(openKinds[top], openLefts[top], operand);
+            if (arity == MISFIT) {
+                refuse(WRONG_ARITY, openPlaces[top]);
+            } else {
                 code.add(openKinds[top], 0, 0);
                 operand = arity;
             }
-            opens--;
         }
 
         private int bodiesBelow(int top) {
@@ -1193,11 +1206,36 @@ public final class RelationFinder {
                 if (code.ops[at] == BIND) {
                     bind(code, at, care, depth + 1);
                     at = code.ends[at];
+                } else if (isConnective(code.ops[at])) {
+                    connect(code, at, care, depth + 1);
+                    at = code.ends[at];
                 } else {
                     apply(code, at);
                     at++;
                 }
             }
+        }
+
+        /** Asks what is behind and, or, implies only where what is before it leaves that open. */
+        private void connect(Code code, int at, long care, int depth) {
+            if (height < 1) {
+                return;
+            }
+            int base = (height - 1) * MAX_TUPLES;
+            long left = cells[base];
+            long asked = care & (code.ops[at] == OR ? ~left : left);
+            long right = asked == 0 ? 0 : formulaOf(code, at + 1, code.ends[at], asked, depth);
+            cells[base] = joined(code.ops[at], left, right);
+        }
+
+        private long formulaOf(Code code, int from, int to, long care, int depth) {
+            int before = height;
+            if (before >= MAX_VALUES) {
+                return 0;
+            }
+            run(code, from, to, care, depth);
+            height = before;
+            return cells[before * MAX_TUPLES];
         }
 
         private void bind(Code code, int at, long care, int depth) {
@@ -1291,10 +1329,7 @@ public final class RelationFinder {
 
         private long bodyFor(Code code, int at, int atom, long care, int depth) {
             boundAtoms[code.args[at]] = atom;
-            int before = height;
-            run(code, code.middles[at], code.ends[at], care, depth);
-            height = before;
-            return cells[before * MAX_TUPLES];
+            return formulaOf(code, code.middles[at], code.ends[at], care, depth);
         }
 
         private static long verdict(int sign, long once, long twice) {

@@ -457,6 +457,12 @@ public final class PromiseTests {
         x.back();
         fact(x, "some a : univ | some b : univ | no {c : univ | c in a + b} - p and some c : q | no d : p | c = d");
         due("some p, some of q that p has not", x.count(), 30);
+        x.back();
+        fact(x, "all a : univ | all b : univ | all c : univ | some d : univ | a in p implies b in q");
+        due("no p, or all q", x.count(), 15);
+        x.back();
+        fact(x, "all a : univ | all b : univ | all c : univ | b in {d : q | a in p} or not a + b = c");
+        due("one all p and all q", x.count(), 1);
         RelationFinder y = new RelationFinder(5);
         y.relation(name("p"), 1);
         boundAll(y, 0, 0, 5, 1);

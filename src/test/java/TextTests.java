@@ -361,6 +361,7 @@ public final class TextTests {
         refused(7, "not some p `= p");
         refused(7, "some p `p");
         refused(7, "some p + p `: p | true");
+        refused(7, "some univ `: p | true");
         refused(7, "# p = 1 `2");
         refused(7, "# p = 1 `= p");
         refused(7, "# p = 1 `+ p");
