@@ -251,21 +251,24 @@ public final class RelationFinder {
     // ---- finding
 
     public int solve() {
-        return presentFrom(0, allFacts());
+        present = firstFrom(0, allFacts());
+        return present == NONE ? 0 : 1;
     }
 
     public int next() throws IllegalStateException {
         if (present == NONE) {
             throw new IllegalStateException("there is no present one");
         }
-        return presentFrom(present + 1, allFacts());
+        present = firstFrom(present + 1, allFacts());
+        return present == NONE ? 0 : 1;
     }
 
     public int check() throws IllegalStateException {
         if (!asserted) {
             throw new IllegalStateException("there is no assertion");
         }
-        return presentFrom(0, allFacts() | 1 << ASSERTION);
+        present = firstFrom(0, allFacts() | 1 << ASSERTION);
+        return present == NONE ? 0 : 1;
     }
 
     public boolean has(int relation, int tuple) throws IndexOutOfBoundsException, IllegalStateException {
@@ -403,11 +406,6 @@ public final class RelationFinder {
 
     private int allFacts() {
         return (1 << facts) - 1;
-    }
-
-    private int presentFrom(int from, int chosen) {
-        present = firstFrom(from, chosen);
-        return present == NONE ? 0 : 1;
     }
 
     /** The least assignment, not below from, that instances() tells; NONE if there is none. */
@@ -822,10 +820,18 @@ public final class RelationFinder {
                 tape.advance();
                 if (tape.kind == WRONG) {
                     refuse(WRONG_TOKEN, tape.place);
-                } else if (tape.tokens > MAX_TOKENS) {
+                    return;
+                }
+                if (tape.tokens > MAX_TOKENS) {
                     refuse(TOO_MUCH, tape.place);
-                } else {
-                    take(tape.kind);
+                    return;
+                }
+                switch (awaited) {
+                    case AWAITS_OPERAND: takeOperand(tape.kind); break;
+                    case AWAITS_NAME: takeBoundName(tape.kind); break;
+                    case AWAITS_COLON: takeColon(tape.kind); break;
+                    case AWAITS_NUMBER: takeNumber(tape.kind); break;
+                    default: takeBehind(tape.kind); break;
                 }
             }
         }
@@ -837,16 +843,6 @@ public final class RelationFinder {
 
         private void refuseToken() {
             refuse(tape.kind == END ? ENDS_EARLY : MISPLACED, tape.place);
-        }
-
-        private void take(int kind) {
-            switch (awaited) {
-                case AWAITS_OPERAND: takeOperand(kind); break;
-                case AWAITS_NAME: takeBoundName(kind); break;
-                case AWAITS_COLON: takeColon(kind); break;
-                case AWAITS_NUMBER: takeNumber(kind); break;
-                default: takeBehind(kind); break;
-            }
         }
 
         private void takeOperand(int kind) {
@@ -1099,7 +1095,7 @@ public final class RelationFinder {
             } else if (top == ROUND && kind == ROUND_END || top == SQUARE && kind == SQUARE_END) {
                 opens--;
             } else if (top == CURLY && kind == CURLY_END) {
-                closeTop();
+                endBinder();
             } else {
                 refuseToken();
             }
@@ -1111,9 +1107,10 @@ public final class RelationFinder {
                 return;
             }
             if (openParts[top] == BODY) {
-                code.endBinder(openStarts[top], top, bodiesBelow(top));
-                operand = openKinds[top] == CURLY ? 1 : 0;
-            } else if (isConnective(openKinds[top])) {
+                endBinder();
+                return;
+            }
+            if (isConnective(openKinds[top])) {
                 code.ends[openStarts[top]] = code.length;
             } else {
                 applyTop(top);
@@ -1129,6 +1126,13 @@ public final class RelationFinder {
                 code.add(openKinds[top], 0, 0);
                 operand = arity;
             }
+        }
+
+        private void endBinder() {
+            int top = opens - 1;
+            code.endBinder(openStarts[top], top, bodiesBelow(top));
+            operand = openKinds[top] == CURLY ? 1 : 0;
+            opens--;
         }
 
         private int bodiesBelow(int top) {
@@ -1189,7 +1193,10 @@ public final class RelationFinder {
         /** Leaves the result as value 0, right in the assignments that care names. */
         void work(Code code, int block, long care) {
             world.show(block);
-            Arrays.fill(memoKnown, 0, code.memoCount * MEMO_PLACES, 0L);
+            int places = code.memoCount * MEMO_PLACES;
+            for (int i = 0; i < places; i++) {
+                memoKnown[i] = 0;
+            }
             height = 0;
             run(code, 0, code.length, care, 0);
         }
@@ -1304,7 +1311,8 @@ public final class RelationFinder {
                 if (asked == 0) {
                     continue;
                 }
-                long body = bodyFor(code, at, atom, asked, depth);
+                boundAtoms[code.args[at]] = atom;
+                long body = formulaOf(code, code.middles[at], code.ends[at], asked, depth);
                 // For all, what is looked for is an atom for which F is false.
                 long hit = asked & (sign == ALL ? ~body : body);
                 twice |= once & hit;
@@ -1321,15 +1329,11 @@ public final class RelationFinder {
             for (int atom = 0; atom < world.atoms; atom++) {
                 long asked = cells[domain + atom] & care;
                 if (asked != 0) {
-                    asked &= bodyFor(code, at, atom, asked, depth);
+                    boundAtoms[code.args[at]] = atom;
+                    asked &= formulaOf(code, code.middles[at], code.ends[at], asked, depth);
                 }
                 cells[domain + atom] = asked;
             }
-        }
-
-        private long bodyFor(Code code, int at, int atom, long care, int depth) {
-            boundAtoms[code.args[at]] = atom;
-            return formulaOf(code, code.middles[at], code.ends[at], care, depth);
         }
 
         private static long verdict(int sign, long once, long twice) {
@@ -1359,8 +1363,17 @@ public final class RelationFinder {
                 case NOT: case TILDE: case HAT: case STAR:
                     applyPrefix(op);
                     break;
-                case DOT: case ARROW: case FIRSTS:
-                    applyMixing(op);
+                case IN: case EQUAL:
+                    compare(op);
+                    break;
+                case DOT:
+                    join();
+                    break;
+                case ARROW:
+                    multiply();
+                    break;
+                case FIRSTS:
+                    keepFirsts();
                     break;
                 default:
                     applyWordwise(op);
@@ -1488,69 +1501,65 @@ public final class RelationFinder {
             }
         }
 
-        /** Operators whose words come of other places than their own. */
-        private void applyMixing(int op) {
+        private void join() {
             if (height < 2) {
                 return;
             }
             height--;
-            int right = arities[height];
-            int left = arities[height - 1];
-            if (op == DOT) {
-                join(left, right);
-                arities[height - 1] = left + right - 2;
-            } else if (op == ARROW) {
-                multiply(left, right);
-                arities[height - 1] = left + right;
-            } else {
-                keepFirsts(right);
-                arities[height - 1] = right;
-            }
-            int base = (height - 1) * MAX_TUPLES;
-            int size = world.sizeOf(arities[height - 1]);
-            for (int i = 0; i < size; i++) {
-                cells[base + i] = scratch[i];
-            }
-        }
-
-        private void join(int left, int right) {
             int n = world.atoms;
-            int leftBase = (height - 1) * MAX_TUPLES;
-            int rightBase = height * MAX_TUPLES;
-            int fronts = world.sizeOf(left - 1);
-            int backs = world.sizeOf(right - 1);
+            int left = (height - 1) * MAX_TUPLES;
+            int right = height * MAX_TUPLES;
+            int fronts = world.sizeOf(arities[height - 1] - 1);
+            int backs = world.sizeOf(arities[height] - 1);
             for (int i = 0; i < fronts; i++) {
-                Arrays.fill(scratch, i * backs, (i + 1) * backs, 0L);
+                for (int j = 0; j < backs; j++) {
+                    scratch[i * backs + j] = 0;
+                }
                 for (int k = 0; k < n; k++) {
-                    long word = cells[leftBase + i * n + k];
+                    long word = cells[left + i * n + k];
                     for (int j = 0; j < backs && word != 0; j++) {
-                        scratch[i * backs + j] |= word & cells[rightBase + k * backs + j];
+                        scratch[i * backs + j] |= word & cells[right + k * backs + j];
                     }
                 }
             }
+            System.arraycopy(scratch, 0, cells, left, fronts * backs);
+            arities[height - 1] += arities[height] - 2;
         }
 
-        private void multiply(int left, int right) {
-            int leftBase = (height - 1) * MAX_TUPLES;
-            int rightBase = height * MAX_TUPLES;
-            int fronts = world.sizeOf(left);
-            int backs = world.sizeOf(right);
+        private void multiply() {
+            if (height < 2) {
+                return;
+            }
+            height--;
+            int left = (height - 1) * MAX_TUPLES;
+            int right = height * MAX_TUPLES;
+            int fronts = world.sizeOf(arities[height - 1]);
+            int backs = world.sizeOf(arities[height]);
             for (int i = 0; i < fronts; i++) {
                 for (int j = 0; j < backs; j++) {
-                    scratch[i * backs + j] = cells[leftBase + i] & cells[rightBase + j];
+                    scratch[i * backs + j] = cells[left + i] & cells[right + j];
                 }
             }
+            System.arraycopy(scratch, 0, cells, left, fronts * backs);
+            arities[height - 1] += arities[height];
         }
 
-        private void keepFirsts(int right) {
-            int leftBase = (height - 1) * MAX_TUPLES;
-            int rightBase = height * MAX_TUPLES;
-            int backs = world.sizeOf(right - 1);
-            for (int i = 0; i < world.atoms; i++) {
+        private void keepFirsts() {
+            if (height < 2) {
+                return;
+            }
+            height--;
+            int left = (height - 1) * MAX_TUPLES;
+            int right = height * MAX_TUPLES;
+            int fronts = world.atoms;
+            int backs = world.sizeOf(arities[height] - 1);
+            for (int i = 0; i < fronts; i++) {
                 for (int j = 0; j < backs; j++) {
-                    scratch[i * backs + j] = cells[leftBase + i] & cells[rightBase + i * backs + j];
+                    scratch[i * backs + j] = cells[left + i] & cells[right + i * backs + j];
                 }
             }
+            System.arraycopy(scratch, 0, cells, left, fronts * backs);
+            arities[height - 1] = arities[height];
         }
 
         /** Operators whose words can be put in the first operand's place one by one. */
@@ -1561,10 +1570,6 @@ public final class RelationFinder {
             height--;
             int left = (height - 1) * MAX_TUPLES;
             int right = height * MAX_TUPLES;
-            if (op == IN || op == EQUAL) {
-                compare(op, left, right);
-                return;
-            }
             if (op == OVERRIDE) {
                 dropBegun(left, right);
             }
@@ -1586,7 +1591,13 @@ public final class RelationFinder {
             }
         }
 
-        private void compare(int op, int left, int right) {
+        private void compare(int op) {
+            if (height < 2) {
+                return;
+            }
+            height--;
+            int left = (height - 1) * MAX_TUPLES;
+            int right = height * MAX_TUPLES;
             int size = world.sizeOf(arities[height - 1]);
             long differ = 0;
             for (int i = 0; i < size; i++) {

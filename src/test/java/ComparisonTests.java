@@ -216,6 +216,8 @@ public final class ComparisonTests {
             bound.clear();
             if (random.nextInt(40) == 0) {
                 longOne(isFormula);
+            } else if (random.nextInt(20) == 0) {
+                soup();
             } else if (isFormula && random.nextInt(3) == 0) {
                 nested(1);
             } else if (isFormula) {
@@ -259,6 +261,15 @@ public final class ComparisonTests {
                 } else {
                     tokens.subList(at, tokens.size()).clear();
                 }
+            }
+        }
+
+        /** Tokens without sense, mostly without those that are none. */
+        void soup() {
+            int many = random.nextInt(10);
+            int few = random.nextInt(10) == 0 ? TOKENS.length : TOKENS.length - 8;
+            for (int i = 0; i < many; i++) {
+                add(TOKENS[random.nextInt(few)]);
             }
         }
 
