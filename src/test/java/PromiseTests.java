@@ -463,6 +463,11 @@ public final class PromiseTests {
         x.back();
         fact(x, "all a : univ | all b : univ | all c : univ | b in {d : q | a in p} or not a + b = c");
         due("one all p and all q", x.count(), 1);
+        x.back();
+        fact(x, "all a : univ | all b : univ | all c : univ | all d : univ | some e : univ | a in p implies b in q or c in p");
+        due("no p, or all q, or all p", x.count(), 22);
+        x.bound(0, 0, 2);
+        due("the same with an atom in p", x.count(), 11);
         RelationFinder y = new RelationFinder(5);
         y.relation(name("p"), 1);
         boundAll(y, 0, 0, 5, 1);
