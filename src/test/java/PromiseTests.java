@@ -1,14 +1,5 @@
-import java.nio.charset.StandardCharsets;
-
 /** For each promise of the document: ordinary inputs, the edges that it names, wrong inputs. */
-public final class PromiseTests {
-    private interface Call {
-        void run();
-    }
-
-    private static int wrong = 0;
-    private static String part = "";
-
+public final class PromiseTests extends Checks {
     public static void main(String[] args) {
         newObject();
         feed();
@@ -33,91 +24,23 @@ public final class PromiseTests {
         holds();
         told();
         presentOneGoes();
-        System.out.println(wrong == 0 ? "all promises are kept" : wrong + " answers are wrong");
-        if (wrong != 0) {
-            System.exit(1);
-        }
+        end("all promises are kept");
     }
 
     // ---- helpers
 
-    private static void due(String what, long got, long want) {
-        if (got != want) {
-            wrong++;
-            System.out.println(part + ": " + what + " answered " + got + ", due is " + want);
-        }
-    }
-
-    private static void due(String what, boolean got, boolean want) {
-        due(what, got ? 1 : 0, want ? 1 : 0);
-    }
-
-    private static void dueThrow(String what, Class<?> want, Call call) {
-        Class<?> got = null;
-        try {
-            call.run();
-        } catch (RuntimeException e) {
-            got = e.getClass();
-        }
-        if (got != want) {
-            wrong++;
-            System.out.println(part + ": " + what + " threw " + got + ", due is " + want);
-        }
-    }
-
-    private static final Class<?> INDEX = IndexOutOfBoundsException.class;
-    private static final Class<?> ARGUMENT = IllegalArgumentException.class;
-    private static final Class<?> STATE = IllegalStateException.class;
-    private static final Class<?> UNSUPPORTED = UnsupportedOperationException.class;
-
     private static long name(String text) {
-        long word = 0;
-        for (byte b : text.getBytes(StandardCharsets.ISO_8859_1)) {
-            word = word << 8 | b & 255;
-        }
-        return word;
-    }
-
-    private static void put(RelationFinder x, String text) {
-        for (int i = 0; i < text.length(); i += 8) {
-            String piece = text.substring(i, Math.min(text.length(), i + 8));
-            x.feed(name(piece), piece.length());
-        }
-    }
-
-    private static int fact(RelationFinder x, String text) {
-        put(x, text);
-        return x.fact();
-    }
-
-    private static int claim(RelationFinder x, String text) {
-        put(x, text);
-        return x.claim();
-    }
-
-    private static int value(RelationFinder x, String text) {
-        put(x, text);
-        return x.value();
-    }
-
-    private static int holds(RelationFinder x, String text) {
-        put(x, text);
-        return x.holds();
-    }
-
-    private static void boundAll(RelationFinder x, int relation, int from, int to, int how) {
-        for (int i = from; i < to; i++) {
-            x.bound(relation, i, how);
-        }
+        return Finder.name(text);
     }
 
     /** Tuples of the value that was worked out last, as a row of 0 and 1. */
-    private static void dueTuples(RelationFinder x, String expression, int arity, String tuples) {
+    private static void dueTuples(String expression, int arity, String tuples) {
+        Finder x = valueWorld();
         int total = 0;
         for (char c : tuples.toCharArray()) {
             total += c - '0';
         }
-        due(expression, value(x, expression), total);
+        due(expression, x.value(expression), total);
         due(expression + " arity", x.told(7), arity);
         for (int i = 0; i < tuples.length(); i++) {
             due(expression + " has " + i, x.isIn(i), tuples.charAt(i) == '1');
@@ -128,18 +51,18 @@ public final class PromiseTests {
     // ---- promises
 
     private static void newObject() {
-        part = "promise 1";
+        of("promise 1");
         int[] given = {Integer.MIN_VALUE, -1, 0, 1, 2, 3, 4, 5, 6, Integer.MAX_VALUE};
         int[] atoms = {1, 1, 1, 1, 2, 3, 4, 5, 5, 5};
         for (int i = 0; i < given.length; i++) {
-            RelationFinder x = new RelationFinder(given[i]);
+            Finder x = new Finder(given[i]);
             due("told(0) of " + given[i], x.told(0), atoms[i]);
             for (int what = 1; what <= 7; what++) {
                 due("told(" + what + ") of " + given[i], x.told(what), 0);
             }
         }
         due("NONE", RelationFinder.NONE, -1);
-        RelationFinder x = new RelationFinder(3);
+        Finder x = new Finder(3);
         dueThrow("back()", STATE, x::back);
         dueThrow("check()", STATE, x::check);
         dueThrow("next()", STATE, x::next);
@@ -147,8 +70,8 @@ public final class PromiseTests {
     }
 
     private static void feed() {
-        part = "promise 2";
-        RelationFinder x = new RelationFinder(2);
+        of("promise 2");
+        Finder x = new Finder(2);
         dueThrow("n 0", ARGUMENT, () -> x.feed(1, 0));
         dueThrow("n 9", ARGUMENT, () -> x.feed(1, 9));
         dueThrow("n -1", ARGUMENT, () -> x.feed(1, -1));
@@ -172,34 +95,34 @@ public final class PromiseTests {
     }
 
     private static void fault() {
-        part = "promise 3";
-        RelationFinder x = new RelationFinder(2);
+        of("promise 3");
+        Finder x = new Finder(2);
         due("before any", x.fault(false), 0);
         due("place before any", x.fault(true), 0);
-        fact(x, "true true");
+        x.fact("true true");
         due("fault", x.fault(false), 7);
         due("place", x.fault(true), 5);
-        put(x, "$");
+        x.put("$");
         dueThrow("value", STATE, x::value);
         due("a call that throws reads nothing", x.fault(false), 7);
         due("place stays", x.fault(true), 5);
-        fact(x, "true");
+        x.fact("true");
         due("none", x.fault(false), 0);
         due("no place", x.fault(true), -1);
-        claim(x, " $");
+        x.claim(" $");
         due("of claim", x.fault(false), 1);
         due("place of claim", x.fault(true), 1);
         x.solve();
-        value(x, "univ.univ");
+        x.value("univ.univ");
         due("of value", x.fault(false), 5);
-        holds(x, "foo = univ");
+        x.holds("foo = univ");
         due("of holds", x.fault(false), 4);
         due("place of holds", x.fault(true), 0);
     }
 
     private static void relation() {
-        part = "promise 4";
-        RelationFinder x = new RelationFinder(5);
+        of("promise 4");
+        Finder x = new Finder(5);
         due("first", x.relation(name("abcdef"), 3), 0);
         String[] refused = {"", "abcdef", "abcdefg", "abcdefgh", "A", "a1", "a b", "a\0", "a\0b", "\0", "~", "`", "{",
             "all", "some", "no", "lone", "one", "not", "and", "or", "implies", "iff", "in", "none", "univ",
@@ -226,13 +149,13 @@ public final class PromiseTests {
         x.solve();
         due("all out", x.has(0, 124), false);
         due("none free", x.count(), 1);
-        due("all out in value", value(x, "abcdef"), 0);
+        due("all out in value", x.value("abcdef"), 0);
         due("arity", x.told(7), 3);
     }
 
     private static void bound() {
-        part = "promise 5";
-        RelationFinder x = new RelationFinder(3);
+        of("promise 5");
+        Finder x = new Finder(3);
         dueThrow("no relation", INDEX, () -> x.bound(0, 0, 0));
         x.relation(name("a"), 1);
         x.relation(name("b"), 2);
@@ -252,7 +175,7 @@ public final class PromiseTests {
         due("free again", x.told(2), 1);
         due("to out", x.bound(2, 26, 0), 1);
         due("none free", x.told(2), 0);
-        boundAll(x, 2, 0, 12, 1);
+        x.boundAll(2, 0, 12, 1);
         due("12 free", x.told(2), 12);
         dueThrow("13th", UNSUPPORTED, () -> x.bound(0, 0, 1));
         dueThrow("13th, wrong how", ARGUMENT, () -> x.bound(0, 0, 3));
@@ -268,84 +191,84 @@ public final class PromiseTests {
     }
 
     private static void fact() {
-        part = "promise 6";
-        RelationFinder x = new RelationFinder(2);
+        of("promise 6");
+        Finder x = new Finder(2);
         due("no text", x.fact(), -1);
-        due("fault", fact(x, "true or"), -8);
+        due("fault", x.fact("true or"), -8);
         due("no fact yet", x.told(3), 0);
         due("used up", x.told(6), 0);
         for (int i = 0; i < 16; i++) {
-            due("fact " + i, fact(x, i % 2 == 0 ? "true" : "univ=univ"), i);
+            due("fact " + i, x.fact(i % 2 == 0 ? "true" : "univ=univ"), i);
         }
-        put(x, "false");
+        x.put("false");
         dueThrow("17th", UNSUPPORTED, x::fact);
         due("the tape is used up", x.told(6), 0);
         due("16", x.told(3), 16);
         due("still true", x.solve(), 1);
-        put(x, "$");
+        x.put("$");
         dueThrow("17th with a fault", UNSUPPORTED, x::fact);
         due("fault of the 16th", x.fault(false), 0);
         due("a present one stays", x.told(5), 1);
     }
 
     private static void back() {
-        part = "promise 7";
-        RelationFinder x = new RelationFinder(2);
+        of("promise 7");
+        Finder x = new Finder(2);
         dueThrow("none", STATE, x::back);
-        fact(x, "true");
-        fact(x, "false");
+        x.fact("true");
+        x.fact("false");
         due("solve", x.solve(), 0);
         due("back", x.back(), 1);
         due("solve", x.solve(), 1);
         due("back", x.back(), 0);
         dueThrow("none again", STATE, x::back);
-        due("number again", fact(x, "false"), 0);
+        due("number again", x.fact("false"), 0);
         due("solve", x.solve(), 0);
     }
 
     private static void claim() {
-        part = "promise 8";
-        RelationFinder x = new RelationFinder(2);
+        of("promise 8");
+        Finder x = new Finder(2);
         due("no text", x.claim(), -1);
         due("no assertion", x.told(4), 0);
-        due("fault", claim(x, "true  ]"), -7);
+        due("fault", x.claim("true  ]"), -7);
         dueThrow("still none", STATE, x::check);
-        due("claim", claim(x, "false"), 0);
+        due("claim", x.claim("false"), 0);
         due("assertion", x.told(4), 1);
         due("check", x.check(), 1);
-        due("fault", claim(x, "true true"), -6);
+        due("fault", x.claim("true true"), -6);
         due("the one before stays", x.check(), 1);
-        due("another", claim(x, "true"), 0);
+        due("another", x.claim("true"), 0);
         due("check", x.check(), 0);
         due("it is no fact", x.told(3), 0);
     }
 
     private static void solve() {
-        part = "promise 9";
-        RelationFinder x = new RelationFinder(3);
+        of("promise 9");
+        Finder x = new Finder(3);
         x.relation(name("q"), 1);
         x.relation(name("p"), 1);
-        boundAll(x, 1, 0, 3, 1);
-        boundAll(x, 0, 0, 3, 1);
-        fact(x, "some p and some q");
+        x.boundAll(1, 0, 3, 1);
+        x.boundAll(0, 0, 3, 1);
+        x.fact("some p and some q");
         due("solve", x.solve(), 1);
         String least = "001001";
         for (int i = 0; i < 6; i++) {
             due("tuple " + i, x.has(i / 3, i % 3), least.charAt(i) == '1');
         }
-        fact(x, "no p");
+        x.fact("no p");
         due("none", x.solve(), 0);
         due("none present", x.told(5), 0);
         dueThrow("has", STATE, () -> x.has(0, 0));
     }
 
     private static void next() {
-        part = "promise 10";
-        RelationFinder x = new RelationFinder(3);
+        of("promise 10");
+        Finder x = new Finder(3);
         dueThrow("none present", STATE, x::next);
         x.relation(name("p"), 1);
-        boundAll(x, 0, 0, 3, 1);
-        fact(x, "some p");
+        x.boundAll(0, 0, 3, 1);
+        x.fact("some p");
         x.solve();
         for (int a = 1; a <= 7; a++) {
             for (int i = 0; i < 3; i++) {
@@ -355,47 +278,47 @@ public final class PromiseTests {
         }
         due("none present", x.told(5), 0);
         dueThrow("behind the last", STATE, x::next);
-        RelationFinder y = new RelationFinder(5);
+        Finder y = new Finder(5);
         y.relation(name("r"), 2);
-        boundAll(y, 0, 3, 15, 1);
-        fact(y, "# r = 11");
+        y.boundAll(0, 3, 15, 1);
+        y.fact("# r = 11");
         int found = y.solve();
         for (int out = 0; out < 12; out++) {
             due("found", found, 1);
             due("one is out", y.has(0, 3 + out), false);
-            due("the others are in", value(y, "r"), 11);
+            due("the others are in", y.value("r"), 11);
             found = y.next();
         }
         due("no more", found, 0);
     }
 
     private static void check() {
-        part = "promise 11";
-        RelationFinder x = new RelationFinder(3);
+        of("promise 11");
+        Finder x = new Finder(3);
         dueThrow("no assertion", STATE, x::check);
         x.solve();
         dueThrow("no assertion", STATE, x::check);
         due("a present one stays", x.told(5), 1);
         x.relation(name("p"), 1);
-        boundAll(x, 0, 0, 3, 1);
-        fact(x, "some p");
-        claim(x, "# p < 2");
+        x.boundAll(0, 0, 3, 1);
+        x.fact("some p");
+        x.claim("# p < 2");
         due("check", x.check(), 1);
         due("least", x.has(0, 0), false);
         due("least", x.has(0, 1) && x.has(0, 2), true);
         due("next is any instance", x.next(), 1);
         due("next", x.has(0, 0) && !x.has(0, 1) && !x.has(0, 2), true);
-        claim(x, "some p");
+        x.claim("some p");
         due("none", x.check(), 0);
         due("none present", x.told(5), 0);
-        fact(x, "false");
-        claim(x, "false");
+        x.fact("false");
+        x.claim("false");
         due("no instance", x.check(), 0);
     }
 
     private static void has() {
-        part = "promise 12";
-        RelationFinder x = new RelationFinder(2);
+        of("promise 12");
+        Finder x = new Finder(2);
         dueThrow("no relation", INDEX, () -> x.has(0, 0));
         x.relation(name("r"), 2);
         dueThrow("none present", STATE, () -> x.has(0, 0));
@@ -404,7 +327,7 @@ public final class PromiseTests {
         x.bound(0, 0, 2);
         x.bound(0, 1, 1);
         x.bound(0, 3, 1);
-        fact(x, "# r = 3");
+        x.fact("# r = 3");
         x.solve();
         dueThrow("no tuple", INDEX, () -> x.has(0, 4));
         dueThrow("relation 1", INDEX, () -> x.has(1, 0));
@@ -416,16 +339,16 @@ public final class PromiseTests {
     }
 
     private static void count() {
-        part = "promise 13";
+        of("promise 13");
         int total = 1;
         for (int free = 0; free <= 12; free++) {
-            RelationFinder x = new RelationFinder(4);
+            Finder x = new Finder(4);
             x.relation(name("r"), 2);
-            boundAll(x, 0, 0, free, 1);
+            x.boundAll(0, 0, free, 1);
             due(free + " free", x.count(), total);
-            due("number " + free, fact(x, "#r=" + Math.min(2, free)), 0);
+            due("number " + free, x.fact("#r=" + Math.min(2, free)), 0);
             due("of " + free, x.count(), free < 2 ? 1 : free * (free - 1) / 2);
-            fact(x, "false");
+            x.fact("false");
             due("none", x.count(), 0);
             due("nothing present", x.told(5), 0);
             total *= 2;
@@ -434,77 +357,77 @@ public final class PromiseTests {
 
     /** Parts that use few of the names around them are not worked out anew each time. */
     private static void countNested() {
-        part = "promise 13, nested";
-        RelationFinder x = new RelationFinder(3);
+        of("promise 13, nested");
+        Finder x = new Finder(3);
         x.relation(name("p"), 1);
         x.relation(name("q"), 1);
-        boundAll(x, 0, 0, 3, 1);
-        boundAll(x, 1, 0, 3, 1);
-        fact(x, "all a : univ | all b : p | some c : q | c = b");
+        x.boundAll(0, 0, 3, 1);
+        x.boundAll(1, 0, 3, 1);
+        x.fact("all a : univ | all b : p | some c : q | c = b");
         due("p in q", x.count(), 27);
         x.back();
-        fact(x, "all a : p | all b : univ | some c : q | a = c");
+        x.fact("all a : p | all b : univ | some c : q | a = c");
         due("p in q", x.count(), 27);
         x.back();
-        fact(x, "all a : p | all b : q | all c : univ | all d : univ | some e : a + b | c = d implies e = b");
+        x.fact("all a : p | all b : q | all c : univ | all d : univ | some e : a + b | c = d implies e = b");
         due("all", x.count(), 64);
         x.back();
-        fact(x, "all a : univ | some b : p | b in {c : q | c = c}");
+        x.fact("all a : univ | some b : p | b in {c : q | c = c}");
         due("p meets q", x.count(), 64 - 27);
         x.back();
-        fact(x, "all a : p | some b : univ | some {c : q | c = a}");
+        x.fact("all a : p | some b : univ | some {c : q | c = a}");
         due("p in q", x.count(), 27);
         x.back();
-        fact(x, "some a : univ | some b : univ | no {c : univ | c in a + b} - p and some c : q | no d : p | c = d");
+        x.fact("some a : univ | some b : univ | no {c : univ | c in a + b} - p and some c : q | no d : p | c = d");
         due("some p, some of q that p has not", x.count(), 30);
         x.back();
-        fact(x, "all a : univ | all b : univ | all c : univ | some d : univ | a in p implies b in q");
+        x.fact("all a : univ | all b : univ | all c : univ | some d : univ | a in p implies b in q");
         due("no p, or all q", x.count(), 15);
         x.back();
-        fact(x, "all a : univ | all b : univ | all c : univ | b in {d : q | a in p} or not a + b = c");
+        x.fact("all a : univ | all b : univ | all c : univ | b in {d : q | a in p} or not a + b = c");
         due("one all p and all q", x.count(), 1);
         x.back();
-        fact(x, "all a : univ | all b : univ | all c : univ | all d : univ | some e : univ | a in p implies b in q or c in p");
+        x.fact("all a : univ | all b : univ | all c : univ | all d : univ | some e : univ | a in p implies b in q or c in p");
         due("no p, or all q, or all p", x.count(), 22);
         x.bound(0, 0, 2);
         due("the same with an atom in p", x.count(), 11);
-        RelationFinder y = new RelationFinder(5);
+        Finder y = new Finder(5);
         y.relation(name("p"), 1);
-        boundAll(y, 0, 0, 5, 1);
+        y.boundAll(0, 0, 5, 1);
         String deep = "";
         for (char c = 'a'; c < 'p'; c++) {
             deep += "all " + c + ":univ|";
         }
-        fact(y, deep + "some x:p|x=o");
+        y.fact(deep + "some x:p|x=o");
         due("all of them", y.count(), 1);
-        fact(y, deep.replace("all", "no") + "false");
+        y.fact(deep.replace("all", "no") + "false");
         due("15 times no, and false", y.count(), 1);
-        fact(y, "no z : univ | " + deep.replace("all", "no") + "false");
+        y.fact("no z : univ | " + deep.replace("all", "no") + "false");
         due("16 times no, and false", y.count(), 0);
     }
 
     private static void unlike() {
-        part = "promise 14";
-        RelationFinder x = new RelationFinder(4);
+        of("promise 14");
+        Finder x = new Finder(4);
         x.relation(name("p"), 1);
-        boundAll(x, 0, 0, 4, 1);
+        x.boundAll(0, 0, 4, 1);
         due("by size", x.unlike(), 5);
-        fact(x, "some p");
+        x.fact("some p");
         due("some", x.unlike(), 4);
         x.bound(0, 0, 2);
         due("one is in", x.unlike(), 4);
-        RelationFinder y = new RelationFinder(3);
+        Finder y = new Finder(3);
         y.relation(name("r"), 2);
         for (int i = 0; i < 9; i++) {
             y.bound(0, i, 1);
         }
         due("binary relations on 3", y.unlike(), 104);
-        fact(y, "no r & iden");
+        y.fact("no r & iden");
         due("digraphs on 3", y.unlike(), 16);
-        fact(y, "r = ~r");
+        y.fact("r = ~r");
         due("graphs on 3", y.unlike(), 4);
         due("graphs with names", y.count(), 8);
-        RelationFinder z = new RelationFinder(4);
+        Finder z = new Finder(4);
         z.relation(name("r"), 2);
         for (int i = 0; i < 16; i++) {
             if (i % 5 != 0) {
@@ -512,28 +435,28 @@ public final class PromiseTests {
             }
         }
         due("digraphs on 4", z.unlike(), 218);
-        fact(z, "r = ~r");
+        z.fact("r = ~r");
         due("graphs on 4", z.unlike(), 11);
-        fact(z, "false");
+        z.fact("false");
         due("none", z.unlike(), 0);
     }
 
     private static void fair() {
-        part = "promise 15";
+        of("promise 15");
         int[] all = {1, 1, 2, 6, 24, 120};
         for (int n = 1; n <= 5; n++) {
-            RelationFinder x = new RelationFinder(n);
+            Finder x = new Finder(n);
             due("no relation", x.fair(), all[n]);
             x.relation(name("p"), 1);
             due("all out", x.fair(), all[n]);
             x.bound(0, 0, 1);
             due("one free", x.fair(), all[n - 1]);
-            fact(x, "false");
+            x.fact("false");
             due("facts don't matter", x.fair(), all[n - 1]);
             x.bound(0, 0, 2);
             due("one in", x.fair(), all[n - 1]);
         }
-        RelationFinder y = new RelationFinder(5);
+        Finder y = new Finder(5);
         y.relation(name("r"), 2);
         for (int i = 0; i < 5; i++) {
             y.bound(0, i * 5 + (i + 1) % 5, 2);
@@ -553,26 +476,26 @@ public final class PromiseTests {
     }
 
     private static void core() {
-        part = "promise 16";
-        RelationFinder x = new RelationFinder(3);
+        of("promise 16");
+        Finder x = new Finder(3);
         dueThrow("no facts", STATE, x::core);
         x.relation(name("p"), 1);
-        boundAll(x, 0, 0, 3, 1);
-        fact(x, "some p");
+        x.boundAll(0, 0, 3, 1);
+        x.fact("some p");
         dueThrow("an instance", STATE, x::core);
-        fact(x, "lone p");
-        fact(x, "# p > 1");
+        x.fact("lone p");
+        x.fact("# p > 1");
         due("core", x.core(), 2);
         due("0 is left out", x.isInCore(0), false);
         due("1", x.isInCore(1), true);
         due("2", x.isInCore(2), true);
-        fact(x, "no p");
+        x.fact("no p");
         due("from the first one on", x.core(), 2);
         due("0", x.isInCore(0), false);
         due("1 is left out for good", x.isInCore(1), false);
         due("2", x.isInCore(2), true);
         due("3", x.isInCore(3), true);
-        fact(x, "false");
+        x.fact("false");
         due("the last alone", x.core(), 1);
         due("4", x.isInCore(4), true);
         x.back();
@@ -582,44 +505,40 @@ public final class PromiseTests {
     }
 
     private static void isInCore() {
-        part = "promise 17";
-        RelationFinder x = new RelationFinder(2);
+        of("promise 17");
+        Finder x = new Finder(2);
         dueThrow("none", INDEX, () -> x.isInCore(0));
-        fact(x, "false");
+        x.fact("false");
         due("before", x.isInCore(0), false);
         dueThrow("-1", INDEX, () -> x.isInCore(-1));
         dueThrow("1", INDEX, () -> x.isInCore(1));
         x.core();
         due("told", x.isInCore(0), true);
-        fact(x, "false");
+        x.fact("false");
         due("came since", x.isInCore(1), false);
         due("told last", x.isInCore(0), true);
         x.core();
         due("told again", x.isInCore(1), true);
         due("left out now", x.isInCore(0), false);
         x.back();
-        fact(x, "true");
+        x.fact("true");
         due("another one came since", x.isInCore(1), false);
         x.back();
         x.back();
         dueThrow("gone", INDEX, () -> x.isInCore(0));
-        fact(x, "true");
+        x.fact("true");
         dueThrow("an instance", STATE, x::core);
         due("a new one", x.isInCore(0), false);
-        RelationFinder y = new RelationFinder(2);
-        fact(y, "false");
+        Finder y = new Finder(2);
+        y.fact("false");
         y.core();
         y.relation(name("p"), 1);
         y.bound(0, 0, 1);
         due("as it was told last", y.isInCore(0), true);
     }
 
-    private static void value() {
-        part = "promise 18";
-        RelationFinder x = new RelationFinder(3);
-        put(x, "univ");
-        dueThrow("none present", STATE, x::value);
-        due("used up", x.told(6), 0);
+    private static Finder valueWorld() {
+        Finder x = new Finder(3);
         x.relation(name("r"), 2);
         x.relation(name("s"), 2);
         x.relation(name("p"), 1);
@@ -635,68 +554,79 @@ public final class PromiseTests {
             x.bound(3, i, 2);
         }
         x.solve();
-        dueTuples(x, "univ", 1, "111");
-        dueTuples(x, "none", 1, "000");
-        dueTuples(x, "iden", 2, "100010001");
-        dueTuples(x, "r", 2, "010001000");
-        dueTuples(x, "r + s", 2, "010101001");
-        dueTuples(x, "s - r", 2, "000100001");
-        dueTuples(x, "s - r - s", 2, "000000000");
-        dueTuples(x, "s - (r - s)", 2, "010100001");
-        dueTuples(x, "r - s + s", 2, "010101001");
-        dueTuples(x, "r & s", 2, "010000000");
-        dueTuples(x, "r + s & r", 2, "010001000");
-        dueTuples(x, "p -> univ", 2, "000111000");
-        dueTuples(x, "univ -> p & r", 2, "010000000");
-        dueTuples(x, "p -> p -> univ", 3, "000000000000111000000000000");
-        dueTuples(x, "r -> p", 3, "000010000000000010000000000");
-        dueTuples(x, "r ++ s", 2, "010100001");
-        dueTuples(x, "s ++ r", 2, "010001001");
-        dueTuples(x, "iden ++ r", 2, "010001001");
-        dueTuples(x, "(univ -> univ) ++ ~r", 2, "111100010");
-        dueTuples(x, "(univ -> univ) ++ (p -> p)", 2, "111010111");
-        dueTuples(x, "p <: r", 2, "000001000");
-        dueTuples(x, "r :> p", 2, "010000000");
-        dueTuples(x, "p <: p", 1, "010");
-        dueTuples(x, "p <: t", 3, "000000000010000000000000000");
-        dueTuples(x, "t :> p", 3, "000000000010000000000000000");
-        dueTuples(x, "p <: r :> p", 2, "000000000");
-        dueTuples(x, "p -> univ :> p", 2, "000010000");
-        dueTuples(x, "r . s", 2, "100001000");
-        dueTuples(x, "s . r", 2, "001010000");
-        dueTuples(x, "p . r", 1, "001");
-        dueTuples(x, "r . p", 1, "100");
-        dueTuples(x, "t . p", 2, "000100000");
-        dueTuples(x, "p . t", 2, "010000000");
-        dueTuples(x, "t . s", 3, "000001000100000000000000001");
-        dueTuples(x, "r . t", 3, "010000000000000001000000000");
-        dueTuples(x, "p . t . p", 1, "100");
-        dueTuples(x, "~ r", 2, "000100010");
-        dueTuples(x, "~~r", 2, "010001000");
-        dueTuples(x, "^ r", 2, "011001000");
-        dueTuples(x, "* r", 2, "111011001");
-        dueTuples(x, "^s", 2, "110110001");
-        dueTuples(x, "p.~r", 1, "100");
-        dueTuples(x, "p.*r", 1, "011");
-        dueTuples(x, "~(r.r)", 2, "000000100");
-        dueTuples(x, "{x : univ | some x.r}", 1, "110");
-        dueTuples(x, "{ p : univ | p = p } - p", 1, "101");
-        dueTuples(x, "{x: p | x in x}", 1, "010");
-        dueTuples(x, "{x : univ | x in {x : univ | some x.s and some r.x}}", 1, "011");
-        dueTuples(x, "{x : {y: univ | some y.r} | x in p}", 1, "010");
-        due("fault", value(x, "p . p"), -3);
-        due("a fault works out nothing", x.isIn(1), true);
-        due("arity stays", x.told(7), 1);
-        due("formula", value(x, "p = p"), -3);
-        due("fault", x.fault(false), 7);
+        return x;
+    }
+
+    private static void value() {
+        of("promise 18");
+        Finder x = new Finder(3);
+        x.put("univ");
+        dueThrow("none present", STATE, x::value);
+        due("used up", x.told(6), 0);
+        dueTuples("univ", 1, "111");
+        dueTuples("none", 1, "000");
+        dueTuples("iden", 2, "100010001");
+        dueTuples("r", 2, "010001000");
+        dueTuples("r + s", 2, "010101001");
+        dueTuples("s - r", 2, "000100001");
+        dueTuples("s - r - s", 2, "000000000");
+        dueTuples("s - (r - s)", 2, "010100001");
+        dueTuples("r - s + s", 2, "010101001");
+        dueTuples("r & s", 2, "010000000");
+        dueTuples("r + s & r", 2, "010001000");
+        dueTuples("p -> univ", 2, "000111000");
+        dueTuples("univ -> p & r", 2, "010000000");
+        dueTuples("p -> p -> univ", 3, "000000000000111000000000000");
+        dueTuples("r -> p", 3, "000010000000000010000000000");
+        dueTuples("r ++ s", 2, "010100001");
+        dueTuples("s ++ r", 2, "010001001");
+        dueTuples("iden ++ r", 2, "010001001");
+        dueTuples("(univ -> univ) ++ ~r", 2, "111100010");
+        dueTuples("(univ -> univ) ++ (p -> p)", 2, "111010111");
+        dueTuples("p <: r", 2, "000001000");
+        dueTuples("r :> p", 2, "010000000");
+        dueTuples("p <: p", 1, "010");
+        dueTuples("p <: t", 3, "000000000010000000000000000");
+        dueTuples("t :> p", 3, "000000000010000000000000000");
+        dueTuples("p <: r :> p", 2, "000000000");
+        dueTuples("p -> univ :> p", 2, "000010000");
+        dueTuples("r . s", 2, "100001000");
+        dueTuples("s . r", 2, "001010000");
+        dueTuples("p . r", 1, "001");
+        dueTuples("r . p", 1, "100");
+        dueTuples("t . p", 2, "000100000");
+        dueTuples("p . t", 2, "010000000");
+        dueTuples("t . s", 3, "000001000100000000000000001");
+        dueTuples("r . t", 3, "010000000000000001000000000");
+        dueTuples("p . t . p", 1, "100");
+        dueTuples("~ r", 2, "000100010");
+        dueTuples("~~r", 2, "010001000");
+        dueTuples("^ r", 2, "011001000");
+        dueTuples("* r", 2, "111011001");
+        dueTuples("^s", 2, "110110001");
+        dueTuples("p.~r", 1, "100");
+        dueTuples("p.*r", 1, "011");
+        dueTuples("~(r.r)", 2, "000000100");
+        dueTuples("{x : univ | some x.r}", 1, "110");
+        dueTuples("{ p : univ | p = p } - p", 1, "101");
+        dueTuples("{x: p | x in x}", 1, "010");
+        dueTuples("{x : univ | x in {x : univ | some x.s and some r.x}}", 1, "011");
+        dueTuples("{x : {y: univ | some y.r} | x in p}", 1, "010");
+        Finder y = valueWorld();
+        y.value("{x: p | x in x}");
+        due("fault", y.value("p . p"), -3);
+        due("a fault works out nothing", y.isIn(1), true);
+        due("arity stays", y.told(7), 1);
+        due("formula", y.value("p = p"), -3);
+        due("fault", y.fault(false), 7);
     }
 
     private static void isIn() {
-        part = "promise 19";
-        RelationFinder x = new RelationFinder(2);
+        of("promise 19");
+        Finder x = new Finder(2);
         due("before", x.isIn(0), false);
         x.solve();
-        value(x, "univ -> univ -> univ");
+        x.value("univ -> univ -> univ");
         due("0", x.isIn(0), true);
         due("7", x.isIn(7), true);
         due("8", x.isIn(8), false);
@@ -707,22 +637,18 @@ public final class PromiseTests {
         dueThrow("none present", STATE, x::value);
         due("stays", x.isIn(7), true);
         x.solve();
-        value(x, "univ");
+        x.value("univ");
         due("1", x.isIn(1), true);
         due("2", x.isIn(2), false);
-        RelationFinder y = new RelationFinder(5);
+        Finder y = new Finder(5);
         y.solve();
-        due("125", value(y, "univ->univ->univ"), 125);
+        due("125", y.value("univ->univ->univ"), 125);
         due("124", y.isIn(124), true);
         due("125", y.isIn(125), false);
     }
 
-    private static void holds() {
-        part = "promise 20";
-        RelationFinder x = new RelationFinder(3);
-        put(x, "true");
-        dueThrow("none present", STATE, x::holds);
-        due("used up", x.told(6), 0);
+    private static Finder holdsWorld() {
+        Finder x = new Finder(3);
         x.relation(name("r"), 2);
         x.relation(name("p"), 1);
         x.relation(name("e"), 1);
@@ -730,6 +656,15 @@ public final class PromiseTests {
         x.bound(0, 2, 2);
         x.bound(1, 0, 2);
         x.solve();
+        return x;
+    }
+
+    private static void holds() {
+        of("promise 20");
+        Finder x = new Finder(3);
+        x.put("true");
+        dueThrow("none present", STATE, x::holds);
+        due("used up", x.told(6), 0);
         String[] yes = {"true", "not false", "not not true", "[true]", "true or false", "false or true",
             "false implies false", "false implies true", "true implies true", "true iff true",
             "false iff false", "true iff false iff false", "true or true and false",
@@ -746,7 +681,7 @@ public final class PromiseTests {
             "some p : univ | not p.r = none", "some p", "lone p :> p", "one p & p"};
         for (String text : yes) {
             boolean isFault = text.contains("3 = 3");
-            due(text, holds(x, text), isFault ? -1 - text.indexOf("3 = 3") : 1);
+            due(text, holdsWorld().holds(text), isFault ? -1 - text.indexOf("3 = 3") : 1);
         }
         String[] no = {"false", "not true", "[false]", "true and false", "false or false",
             "true implies false", "true iff false", "true implies false implies false and false iff false",
@@ -756,27 +691,28 @@ public final class PromiseTests {
             "all x: univ | all x: p | x.r = x", "false and all x: univ | true or true",
             "not all x: univ | false or true"};
         for (String text : no) {
-            due(text, holds(x, text), 0);
+            due(text, holdsWorld().holds(text), 0);
         }
-        due("fault", holds(x, "univ"), -5);
-        due("expression", x.fault(false), 2);
-        due("the present one stays", x.told(5), 1);
+        Finder y = holdsWorld();
+        due("fault", y.holds("univ"), -5);
+        due("expression", y.fault(false), 2);
+        due("the present one stays", y.told(5), 1);
     }
 
     private static void told() {
-        part = "promise 21";
-        RelationFinder x = new RelationFinder(4);
+        of("promise 21");
+        Finder x = new Finder(4);
         x.relation(name("p"), 1);
         x.relation(name("r"), 2);
         x.relation(name("t"), 3);
         x.bound(0, 0, 1);
         x.bound(1, 0, 1);
         x.bound(1, 1, 2);
-        fact(x, "true");
-        claim(x, "true");
+        x.fact("true");
+        x.claim("true");
         x.solve();
-        value(x, "r");
-        put(x, "some");
+        x.value("r");
+        x.put("some");
         int[] due = {4, 3, 2, 1, 1, 1, 4, 2};
         for (int what = 0; what < due.length; what++) {
             due("told(" + what + ")", x.told(what), due[what]);
@@ -785,14 +721,14 @@ public final class PromiseTests {
             due("told(" + what + ")", x.told(what), -1);
         }
         x.fact();
-        value(x, "t");
+        x.value("t");
         due("arity", x.told(7), 3);
     }
 
     /** THE PRESENT ONE goes with each change of what it is of, and with no other call. */
     private static void presentOneGoes() {
-        part = "the present one";
-        RelationFinder x = new RelationFinder(2);
+        of("the present one");
+        Finder x = new Finder(2);
         x.solve();
         x.relation(name("p"), 1);
         due("relation", x.told(5), 0);
@@ -800,10 +736,10 @@ public final class PromiseTests {
         x.bound(0, 0, 0);
         due("bound", x.told(5), 0);
         x.solve();
-        fact(x, "true");
+        x.fact("true");
         due("fact", x.told(5), 0);
         x.solve();
-        claim(x, "true");
+        x.claim("true");
         due("claim", x.told(5), 0);
         x.solve();
         x.back();
@@ -813,14 +749,14 @@ public final class PromiseTests {
         dueThrow("bound", INDEX, () -> x.bound(0, 2, 1));
         dueThrow("bound", ARGUMENT, () -> x.bound(0, 0, 3));
         dueThrow("back", STATE, x::back);
-        fact(x, "tru");
-        claim(x, "tru");
+        x.fact("tru");
+        x.claim("tru");
         x.count();
         x.unlike();
         x.fair();
         dueThrow("core", STATE, x::core);
-        value(x, "p");
-        holds(x, "no p");
+        x.value("p");
+        x.holds("no p");
         due("stays", x.told(5), 1);
     }
 }

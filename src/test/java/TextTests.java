@@ -1,16 +1,6 @@
-import java.nio.charset.StandardCharsets;
-
 /** Texts and the FAULT and place that the document gives them; 0 and NONE for those it takes. */
-public final class TextTests {
-    private static int wrong = 0;
-    private static RelationFinder x;
-
+public final class TextTests extends TextChecks {
     public static void main(String[] args) {
-        x = new RelationFinder(2);
-        x.relation(name("p"), 1);
-        x.relation(name("r"), 2);
-        x.relation(name("t"), 3);
-        x.relation(name("ab"), 1);
         tokens();
         ends();
         places();
@@ -21,63 +11,7 @@ public final class TextTests {
         behind();
         expressions();
         binding();
-        System.out.println(wrong == 0 ? "all texts are read as due" : wrong + " texts are read wrongly");
-        if (wrong != 0) {
-            System.exit(1);
-        }
-    }
-
-    private static long name(String text) {
-        long word = 0;
-        for (byte b : text.getBytes(StandardCharsets.ISO_8859_1)) {
-            word = word << 8 | b & 255;
-        }
-        return word;
-    }
-
-    private static void put(String text) {
-        for (int i = 0; i < text.length(); i += 8) {
-            String piece = text.substring(i, Math.min(text.length(), i + 8));
-            x.feed(name(piece), piece.length());
-        }
-    }
-
-    private static void compare(String text, int answer, int good, int kind, int place) {
-        boolean isDue = answer == (kind == 0 ? good : -1 - place)
-            && x.fault(false) == kind && x.fault(true) == (kind == 0 ? -1 : place);
-        if (!isDue) {
-            wrong++;
-            System.out.println(text + " answered " + answer + " with fault " + x.fault(false) + " at " + x.fault(true)
-                + ", due is " + kind + " at " + place);
-        }
-    }
-
-    private static void formula(String text, int kind, int place) {
-        put(text);
-        compare(text, x.claim(), 0, kind, place);
-    }
-
-    private static void taken(String text) {
-        formula(text, 0, -1);
-    }
-
-    /** The place of the fault is that of the mark `, which is left out. */
-    private static void refused(int kind, String marked) {
-        formula(marked.replace("`", ""), kind, marked.indexOf('`'));
-    }
-
-    private static void expression(String text, int good, int kind, int place) {
-        x.solve();
-        put(text);
-        compare(text, x.value(), good, kind, place);
-    }
-
-    private static void refusedExpression(int kind, String marked) {
-        expression(marked.replace("`", ""), 0, kind, marked.indexOf('`'));
-    }
-
-    private static String times(String text, int n) {
-        return text.repeat(n);
+        end("all texts are read as due");
     }
 
     private static void tokens() {
@@ -397,12 +331,6 @@ public final class TextTests {
         expression(times("(", 21) + "univ" + times(")", 21), 0, 6, 20);
         expression(times("univ+", 99) + "univ", 2, 0, -1);
         expression(times("univ+", 100) + "univ", 0, 6, 500);
-    }
-
-    private static void holds(String text, int due) {
-        x.solve();
-        put(text);
-        compare(text, x.holds(), due, 0, -1);
     }
 
     /** Each of these is another thing if it is read with other bonds. */
