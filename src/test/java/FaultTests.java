@@ -8,6 +8,8 @@ public final class FaultTests extends TextChecks {
 
     public static void main(String[] args) {
         usedUp();
+        remnants();
+        fullTape();
         blanks();
         firstBytes();
         longestWords();
@@ -67,6 +69,70 @@ public final class FaultTests extends TextChecks {
         due("fact that throws", x.told(6), 0);
         x.back();
         due("nothing is left of it", x.fact("true"), 15);
+    }
+
+    /** The first text would go on as the second one, were it not for its end. */
+    private static void dueAlone(String begun, int kind, int place, String before) {
+        Finder x = world();
+        x.claim(before);
+        int answer = x.claim(begun);
+        due(begun + " after " + before, answer, kind == 0 ? 0 : -1 - place);
+        due(begun + " after " + before + ", fault", x.fault(false), kind);
+    }
+
+    private static void remnants() {
+        of("TEXT calls use it up: nothing of an earlier text is read again");
+        dueAlone("# p = 1", 0, -1, "# p = 1234");
+        dueAlone("some p", 0, -1, "some pppppppp");
+        dueAlone("some p", 0, -1, "some p.p.p.p.p");
+        dueAlone("true", 0, -1, "trueimplies");
+        dueAlone("true", 0, -1, "true true true");
+        dueAlone("some x:", 2, 7, "some x:> p");
+        dueAlone("some x", 4, 5, "some x: p | true");
+        dueAlone("some x ", 4, 5, "some x : p | true");
+        dueAlone("all x:", 2, 6, "all x:> p");
+        dueAlone("p -", 2, 3, "p -> p = r");
+        dueAlone("# p <", 2, 5, "# p <: r = 1");
+        dueAlone("r +", 2, 3, "r ++ r = r");
+        dueAlone("r :", 3, 2, "r :> p = r");
+        dueAlone("no", 2, 2, "none = p");
+        dueAlone("", 2, 0, "true");
+    }
+
+    /** A text whose last byte is the last that the tape can have. */
+    private static void atTheEnd(String text, int kind, int place) {
+        int blanks = 600 - text.length();
+        formula(times(" ", blanks) + text, kind, blanks + place);
+    }
+
+    private static void fullTape() {
+        of("THE TAPE has bytes, 600 at most");
+        atTheEnd("true", 0, 0);
+        atTheEnd("some p", 0, 0);
+        atTheEnd("# p = 1", 0, 0);
+        atTheEnd("# p = 123", 0, 0);
+        atTheEnd("# p = 1234", 1, 6);
+        atTheEnd("[p = p]", 0, 0);
+        atTheEnd("some x", 4, 5);
+        atTheEnd("some x:", 2, 7);
+        atTheEnd("some x :", 2, 8);
+        atTheEnd("some x :>", 4, 5);
+        atTheEnd("some x ", 4, 5);
+        atTheEnd("some ", 2, 5);
+        atTheEnd("some", 2, 4);
+        atTheEnd("all x:", 2, 6);
+        atTheEnd("all x:>", 3, 5);
+        atTheEnd("p -", 2, 3);
+        atTheEnd("r +", 2, 3);
+        atTheEnd("# p <", 2, 5);
+        atTheEnd("r :", 3, 2);
+        atTheEnd("true or $", 1, 8);
+        atTheEnd("true or abcdefg", 1, 8);
+        atTheEnd("true implies", 2, 12);
+        atTheEnd(times("[", 100), 6, 20);
+        atTheEnd(times("p.", 300), 5, 1);
+        atTheEnd(times("p+", 300), 6, 200);
+        atTheEnd(times("p ", 300), 3, 2);
     }
 
     // ---- tokens
@@ -298,6 +364,9 @@ public final class FaultTests extends TextChecks {
         refused(7, "true `foo");
         of("a NAME: of the innermost Q or { that has it, else of a relation");
         taken("all r : p | r = p");
+        holds("some x : univ | # {y : univ | some x : y | x = y} = 2", 1);
+        holds("all x : univ | x in {x : univ - x | true}", 0);
+        holds("all r : univ | some r : r | one r", 1);
         refused(5, "[all r : p | r = p] and r `= p");
         refused(5, "all r : p | r `= iden");
         refused(5, "`all r : r | true");
